@@ -166,9 +166,9 @@ public final class ArchetypeWorld {
         int s = systemCount;
         withOf[s] = with;
         withoutOf[s] = sets / SETS;
-        kindOf[s] = work & 7;
-        targetOf[s] = (work >> 3) & 7;
-        sourceOf[s] = work >> 6;
+        kindOf[s] = kindIn(work);
+        targetOf[s] = targetIn(work);
+        sourceOf[s] = sourceIn(work);
         stageOf[s] = stageBehindEarlier(s);
         systemCount++;
         return s;
@@ -236,12 +236,24 @@ public final class ArchetypeWorld {
         return isComponent(c) && contains(set, c);
     }
 
+    private static int kindIn(int work) {
+        return work & 7;
+    }
+
+    private static int targetIn(int work) {
+        return (work >> 3) & 7;
+    }
+
+    private static int sourceIn(int work) {
+        return work >> 6;
+    }
+
     private static boolean isWorkOn(int work, int with) {
-        if (work < 0 || (work & 7) > CLEAR_IF_NEGATIVE) {
+        if (work < 0 || kindIn(work) > CLEAR_IF_NEGATIVE) {
             return false;
         }
-        int a = (work >> 3) & 7;
-        int b = work >> 6;
+        int a = targetIn(work);
+        int b = sourceIn(work);
         return isComponentOf(a, with) && isComponentOf(b, with);
     }
 

@@ -115,7 +115,7 @@ public final class EntityTest {
         for (int set : NOT_SETS) {
             Check.due("2: BAD_ARG before FULL", w.spawn(set, 1), BAD_ARG);
         }
-        Check.due("2: digest after refusals", w.sum(0, 0, 0), 24);
+        Check.due("2: sum after refusals", w.sum(0, 0, 0), 24);
     }
 
     private static void promise3() {

@@ -1,6 +1,3 @@
-import java.util.List;
-import java.util.function.Consumer;
-
 /** A refused call changes nothing: a world that refused calls goes on like its twin that never got them. */
 public final class RefusalTest {
     private static final int MIN = Integer.MIN_VALUE;
@@ -14,30 +11,26 @@ public final class RefusalTest {
 
     private static void refusedInAFullWorld() {
         ArchetypeWorld world = fullWorld();
-        List<Consumer<ArchetypeWorld>> calls = List.of(
-            w -> Check.due("spawn when full", w.spawn(63, 9), ArchetypeWorld.FULL),
-            w -> Check.due("system when full", w.system(63, 0), ArchetypeWorld.FULL),
-            w -> Check.due("system(1, 8)", w.system(1, 8), ArchetypeWorld.BAD_ARG),
-            w -> Check.due("system(MIN, MIN)", w.system(MIN, MIN), ArchetypeWorld.BAD_ARG));
-        calls.forEach(call -> call.accept(world));
+        Check.due("spawn when full", world.spawn(63, 9), ArchetypeWorld.FULL);
+        Check.due("system when full", world.system(63, 0), ArchetypeWorld.FULL);
+        Check.due("system(1, 8)", world.system(1, 8), ArchetypeWorld.BAD_ARG);
+        Check.due("system(MIN, MIN)", world.system(MIN, MIN), ArchetypeWorld.BAD_ARG);
         compare(world, fullWorld());
     }
 
     private static void refusedInAWorldWithRoom() {
         ArchetypeWorld world = worldWithRoom();
-        List<Consumer<ArchetypeWorld>> calls = List.of(
-            w -> Check.due("spawn(64, 9)", w.spawn(64, 9), ArchetypeWorld.BAD_ARG),
-            w -> Check.due("spawn(MIN, 9)", w.spawn(MIN, 9), ArchetypeWorld.BAD_ARG),
-            w -> Check.due("kill(5)", w.kill(5), ArchetypeWorld.NONE),
-            w -> Check.due("kill(MAX)", w.kill(MAX), ArchetypeWorld.NONE),
-            w -> Check.due("put(5, 0, 9)", w.put(5, 0, 9), ArchetypeWorld.NONE),
-            w -> Check.due("put(0, 6, 9)", w.put(0, 6, 9), ArchetypeWorld.BAD_ARG),
-            w -> Check.due("put(1, -1, 9)", w.put(1, -1, 9), ArchetypeWorld.BAD_ARG),
-            w -> Check.due("drop(5, 0)", w.drop(5, 0), ArchetypeWorld.NONE),
-            w -> Check.due("drop(0, 32)", w.drop(0, 32), ArchetypeWorld.BAD_ARG),
-            w -> Check.due("system(4096, 0)", w.system(4096, 0), ArchetypeWorld.BAD_ARG),
-            w -> Check.due("system(63, 5)", w.system(63, 5), ArchetypeWorld.BAD_ARG));
-        calls.forEach(call -> call.accept(world));
+        Check.due("spawn(64, 9)", world.spawn(64, 9), ArchetypeWorld.BAD_ARG);
+        Check.due("spawn(MIN, 9)", world.spawn(MIN, 9), ArchetypeWorld.BAD_ARG);
+        Check.due("kill(5)", world.kill(5), ArchetypeWorld.NONE);
+        Check.due("kill(MAX)", world.kill(MAX), ArchetypeWorld.NONE);
+        Check.due("put(5, 0, 9)", world.put(5, 0, 9), ArchetypeWorld.NONE);
+        Check.due("put(0, 6, 9)", world.put(0, 6, 9), ArchetypeWorld.BAD_ARG);
+        Check.due("put(1, -1, 9)", world.put(1, -1, 9), ArchetypeWorld.BAD_ARG);
+        Check.due("drop(5, 0)", world.drop(5, 0), ArchetypeWorld.NONE);
+        Check.due("drop(0, 32)", world.drop(0, 32), ArchetypeWorld.BAD_ARG);
+        Check.due("system(4096, 0)", world.system(4096, 0), ArchetypeWorld.BAD_ARG);
+        Check.due("system(63, 5)", world.system(63, 5), ArchetypeWorld.BAD_ARG);
         compare(world, worldWithRoom());
     }
 
