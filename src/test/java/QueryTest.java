@@ -1,20 +1,12 @@
-/** Promises 9 to 12, 18 and what 19 says of next: count, next, sum, kinds and digest. */
+/** Promises 9 to 12 and 18 for ordinary arguments: count, next, sum, kinds and digest. */
 public final class QueryTest {
-    private static final int BAD_ARG = ArchetypeWorld.BAD_ARG;
     private static final int NONE = ArchetypeWorld.NONE;
-    private static final int MIN = Integer.MIN_VALUE;
-    private static final int MAX = Integer.MAX_VALUE;
-    private static final int[] NOT_COMPONENTS = {-1, 6, 7, 31, 32, -32, MIN, MAX};
-    private static final int[] NOT_SETS = {-1, 64, 65, -64, MIN, MAX};
 
     public static void main(String[] args) {
         promise9();
         promise9EachSet();
         promise10();
-        promise10And19Refused();
         promise11();
-        promise11Wraps();
-        promise11Refused();
         promise12();
         promise18();
         promise18EachPlace();
@@ -42,10 +34,6 @@ public final class QueryTest {
         Check.due("9: without all", w.count(0, 63), 1);
         Check.due("9: with all", w.count(63, 0), 1);
         Check.due("9: the same on both sides", w.count(1, 1), 0);
-        for (int set : NOT_SETS) {
-            Check.due("9: count(" + set + ", 0)", w.count(set, 0), BAD_ARG);
-            Check.due("9: count(0, " + set + ")", w.count(0, set), BAD_ARG);
-        }
         ArchetypeWorld full = new ArchetypeWorld();
         Check.fill(full, 5, 0);
         Check.due("9: all 24", full.count(5, 58), 24);
@@ -80,26 +68,11 @@ public final class QueryTest {
         Check.due("10: without", w.next(0, 1, 0), 3);
         Check.due("10: with and without", w.next(4, 1, 0), 5);
         Check.due("10: nothing asked", w.next(0, 0, 0), 0);
-        Check.due("10: from below 0", w.next(0, 0, -1), 0);
-        Check.due("10: from far below 0", w.next(4, 0, MIN), 1);
-        Check.due("10: from 24", w.next(0, 0, 24), NONE);
-        Check.due("10: from far above", w.next(0, 0, MAX), NONE);
         Check.due("10: the same on both sides", w.next(1, 1, 0), NONE);
         ArchetypeWorld full = new ArchetypeWorld();
         Check.fill(full, 5, 0);
         Check.due("10: from 23", full.next(5, 2, 23), 23);
         Check.due("10: from 24 of a full world", full.next(5, 2, 24), NONE);
-    }
-
-    private static void promise10And19Refused() {
-        ArchetypeWorld w = mixed();
-        for (int set : NOT_SETS) {
-            Check.due("10: with " + set, w.next(set, 0, 0), BAD_ARG);
-            Check.due("10: without " + set, w.next(0, set, 0), BAD_ARG);
-            Check.due("19: BAD_ARG before NONE, with", w.next(set, 0, 24), BAD_ARG);
-            Check.due("19: BAD_ARG before NONE, without", w.next(0, set, MAX), BAD_ARG);
-        }
-        Check.due("19: BAD_ARG before NONE in a new world", new ArchetypeWorld().next(64, 0, 0), BAD_ARG);
     }
 
     private static void promise11() {
@@ -118,27 +91,6 @@ public final class QueryTest {
         ArchetypeWorld full = new ArchetypeWorld();
         Check.fill(full, 32, 3);
         Check.due("11: all 24", full.sum(32, 31, 5), 72);
-    }
-
-    private static void promise11Wraps() {
-        ArchetypeWorld w = new ArchetypeWorld();
-        w.spawn(1, MAX);
-        w.spawn(1, MAX);
-        Check.due("11: wraps once", w.sum(1, 0, 0), -2);
-        w.spawn(1, MIN);
-        Check.due("11: wraps again", w.sum(1, 0, 0), MAX - 1);
-    }
-
-    private static void promise11Refused() {
-        ArchetypeWorld w = new ArchetypeWorld();
-        Check.fill(w, 63, 5);
-        for (int set : NOT_SETS) {
-            Check.due("11: with " + set, w.sum(set, 0, 0), 0);
-            Check.due("11: without " + set, w.sum(0, set, 0), 0);
-        }
-        for (int c : NOT_COMPONENTS) {
-            Check.due("11: component " + c, w.sum(0, 0, c), 0);
-        }
     }
 
     private static void promise12() {
@@ -178,7 +130,7 @@ public final class QueryTest {
         w.kill(0);
         Check.due("18: a dead one is not added", w.digest(), due - 30);
         ArchetypeWorld high = new ArchetypeWorld();
-        Check.fill(high, 32, MAX);
+        Check.fill(high, 32, Edges.MAX);
         // Every factor 6 e + 6 is even, and an even k times the greatest int wraps to -k.
         int wrapped = 0;
         for (int e = 0; e < 24; e++) {

