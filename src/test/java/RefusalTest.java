@@ -5,8 +5,8 @@ import java.util.function.ToIntFunction;
 
 /**
  * "A refused call answers the code named and changes nothing." Each refused call is made on a world
- * of its own, which must then go on like its twin that never got the call; and all of them are made
- * on one world, one behind the other.
+ * of its own, which must then go on like its twin that never got the call; then they are made one
+ * behind the other, many on one world.
  */
 public final class RefusalTest {
     private static final int BAD_ARG = ArchetypeWorld.BAD_ARG;
