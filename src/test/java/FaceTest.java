@@ -7,7 +7,7 @@ import java.util.TreeSet;
 
 /** The public face: the constants, constructor and methods of the document, and nothing else that can be seen. */
 public final class FaceTest {
-    private static final Set<String> METHODS = Set.of(
+    static final Set<String> METHODS = Set.of(
         "spawn/2", "kill/1", "put/3", "drop/2", "get/2", "parts/1", "living/0", "count/2", "next/3",
         "sum/3", "kinds/0", "system/2", "unsystem/0", "stage/1", "stages/0", "frame/1", "digest/0");
 

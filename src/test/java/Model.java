@@ -161,11 +161,27 @@ final class Model {
         return systems.size();
     }
 
+    private static HashSet<Integer> writes(int[] system) {
+        HashSet<Integer> written = new HashSet<>();
+        written.add(system[3]);
+        return written;
+    }
+
+    /** Kind 2 to the letter, though the class leaves it out of its conflicts as changing nothing there. */
+    private static HashSet<Integer> reads(int[] system) {
+        HashSet<Integer> read = new HashSet<>();
+        read.add(system[4]);
+        if (system[2] != 2) {
+            read.add(system[3]);
+        }
+        return read;
+    }
+
     private static boolean writesWhatTheOtherUses(int[] one, int[] other) {
-        HashSet<Integer> used = new HashSet<>();
-        used.add(other[3]);
-        used.add(other[4]);
-        return used.contains(one[3]);
+        HashSet<Integer> used = reads(other);
+        used.addAll(writes(other));
+        used.retainAll(writes(one));
+        return !used.isEmpty();
     }
 
     int stage(int s) {
